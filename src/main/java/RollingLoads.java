@@ -22,9 +22,6 @@ public final class RollingLoads {
     private static final int MAX_GAP = 20;
     private static final int MAX_CHECKS = 5;
     private static final int MAX_LIMIT = 100000;
-    private static final int MAX_SHAKE = 60;
-    private static final int MAX_LANES = 4;
-    private static final int MAX_SHARE = 100;
     private static final int MAX_POSTED = 300;
     private static final int MAX_SPREAD = 20;
     private static final int MAX_TRAFFIC = 1000;
@@ -35,6 +32,13 @@ public final class RollingLoads {
     private static final int MAX_ROUTE_WHAT = 11;
     /** Spreading makes every gap longer, so the longest roll is that of the widest spread. */
     private static final int MAX_TIMES = MAX_LENGTH + (MAX_AXLES - 1) * (MAX_GAP + MAX_SPREAD) + 1;
+
+    private static final int SHAKE = 0;
+    private static final int LANES = 1;
+    private static final int SHARE = 2;
+    /** By rule. */
+    private static final int[] RULE_LEAST = {0, 1, 0};
+    private static final int[] RULE_MOST = {60, 4, 100};
 
     private static final int REACTION = 0;
     private static final int MOMENT = 1;
@@ -92,9 +96,9 @@ public final class RollingLoads {
             case 1: return bridge.supports.length;
             case 2: return bridge.hingeCount;
             case 3: return bridge.checkCount;
-            case 4: return bridge.shake;
-            case 5: return bridge.lanes;
-            case 6: return bridge.share;
+            case 4: return bridge.rules[SHAKE];
+            case 5: return bridge.rules[LANES];
+            case 6: return bridge.rules[SHARE];
             default: return OUTSIDE;
         }
     }
@@ -116,22 +120,12 @@ public final class RollingLoads {
         if (bridge == null) {
             return UNKNOWN;
         }
-        if (what == 0 && within(v, 0, MAX_SHAKE)) {
-            int was = bridge.shake;
-            bridge.shake = v;
-            return was;
+        if (!within(what, SHAKE, SHARE) || !within(v, RULE_LEAST[what], RULE_MOST[what])) {
+            return OUTSIDE;
         }
-        if (what == 1 && within(v, 1, MAX_LANES)) {
-            int was = bridge.lanes;
-            bridge.lanes = v;
-            return was;
-        }
-        if (what == 2 && within(v, 0, MAX_SHARE)) {
-            int was = bridge.share;
-            bridge.share = v;
-            return was;
-        }
-        return OUTSIDE;
+        int was = bridge.rules[what];
+        bridge.rules[what] = v;
+        return was;
     }
 
     // ---- trains
@@ -192,8 +186,7 @@ public final class RollingLoads {
             return OUTSIDE;
         }
         line.draw(bridge, kind, at);
-        sweep.roll(line, train, way);
-        return partOf(sweep.effects[time], line.lower, what);
+        return partOf(line.effectOf(train, way, time), line.lower, what);
     }
 
     public long worst(int b, int kind, int at, int t, int end, int what) {
@@ -270,8 +263,8 @@ public final class RollingLoads {
             return OUTSIDE;
         }
         inspector.prepare(bridge, trainAt(usualTrain), mode);
-        inspector.sumUp(c, check, train);
-        return partOf(inspector.totals[end], inspector.lowerOf(check), what);
+        extremes.find(check.line, train, sweep);
+        return partOf(inspector.totalOf(c, end, extremes.uppers[end]), check.totalLower(), what);
     }
 
     public int fails(int b, int t, int mode) {
@@ -284,7 +277,7 @@ public final class RollingLoads {
             return OUTSIDE;
         }
         inspector.prepare(bridge, trainAt(usualTrain), mode);
-        return inspector.unmetFrom(0, bridge, train);
+        return inspector.firstUnmet(bridge, train);
     }
 
     public int posted(int b, int t) {
@@ -294,18 +287,20 @@ public final class RollingLoads {
             return UNKNOWN;
         }
         inspector.prepare(bridge, trainAt(usualTrain), FREE);
+        // Without any weight both ends are nearest to 0: what fails then fails always.
+        trial.copyWeighing(train, 0);
+        if (!inspector.allMet(bridge, trial)) {
+            return NONE;
+        }
         // Cut weights do not all grow at once, so a heavier train may meet what a lighter one fails:
-        // every p is tried from above. What failed last is likely to fail again and is tried first.
-        int suspect = 0;
-        for (int p = MAX_POSTED; p >= 0; p--) {
+        // every p is tried, from above.
+        for (int p = MAX_POSTED; p > 0; p--) {
             trial.copyWeighing(train, p);
-            int unmet = inspector.unmetFrom(suspect, bridge, trial);
-            if (unmet == NONE) {
+            if (inspector.allMet(bridge, trial)) {
                 return p;
             }
-            suspect = unmet;
         }
-        return NONE;
+        return 0;
     }
 
     public int spread(int b, int t, int mode) {
@@ -318,14 +313,11 @@ public final class RollingLoads {
             return OUTSIDE;
         }
         inspector.prepare(bridge, trainAt(usualTrain), mode);
-        int suspect = 0;
         for (int k = 0; k <= MAX_SPREAD; k++) {
             trial.copySpread(train, k);
-            int unmet = inspector.unmetFrom(suspect, bridge, trial);
-            if (unmet == NONE) {
+            if (inspector.allMet(bridge, trial)) {
                 return k;
             }
-            suspect = unmet;
         }
         return NONE;
     }
@@ -527,7 +519,7 @@ public final class RollingLoads {
             Bridge bridge = bridgeAt(b);
             if (bridge != null) {
                 inspector.prepare(bridge, trainAt(usualTrain), mode);
-                unmetOfBridge[b] = inspector.unmetFrom(0, bridge, train);
+                unmetOfBridge[b] = inspector.firstUnmet(bridge, train);
             }
             if (unmetOfBridge[b] != NONE) {
                 roads.closeOver(b);
@@ -650,9 +642,8 @@ public final class RollingLoads {
         private final long lower;
         /** By support and place of the load. */
         private final long[][] reactions;
-        private int shake = 30;
-        private int lanes = 1;
-        private int share = 50;
+        /** Shake, lanes, share. */
+        private final int[] rules = {30, 1, 50};
         private final Check[] checks = new Check[MAX_CHECKS];
         private int checkCount = 0;
 
@@ -707,6 +698,20 @@ public final class RollingLoads {
             }
         }
 
+        long effectOf(Train train, int way, int time) {
+            int allGaps = train.allGaps();
+            int behindFirst = 0;
+            long sum = 0;
+            for (int k = 0; k < train.axleCount; k++) {
+                behindFirst += train.gaps[k];
+                int place = time - (way == 0 ? behindFirst : allGaps - behindFirst);
+                if (within(place, 0, length)) {
+                    sum += train.weights[k] * uppers[place];
+                }
+            }
+            return sum;
+        }
+
         long cut(long upper) {
             return lower == 0 ? 0 : upper / lower;
         }
@@ -720,6 +725,15 @@ public final class RollingLoads {
         Check(int high, int low) {
             this.high = high;
             this.low = low;
+        }
+
+        /** Totals have two hundredths in them, of the share and of the shake. */
+        long totalLower() {
+            return line.lower * 100 * 100;
+        }
+
+        boolean allows(int end, long total) {
+            return end == GREATEST ? total <= high * totalLower() : total >= low * totalLower();
         }
     }
 
@@ -822,20 +836,24 @@ public final class RollingLoads {
         }
     }
 
-    /** The checks of a bridge against trains, in one mode and with the same other lanes. */
+    /** The checks of one bridge against trains, in one mode and with the same other lanes. */
     private static final class Inspector {
         private final Sweep sweep = new Sweep();
         private final Extremes extremes = new Extremes();
         /** What counts of the other lanes, in hundredths, by end and check. */
         private final long[][] others = new long[2][MAX_CHECKS];
-        /** By end; over lowerOf the check. */
-        private final long[] totals = new long[2];
         private int shaken = 100;
+        /** The check that failed last (NONE: none has), with the end, way and time where it did. */
+        private int failedCheck = NONE;
+        private int failedEnd = GREATEST;
+        private int failedWay = NONE;
+        private int failedTime = NONE;
 
         void prepare(Bridge bridge, Train usual, int mode) {
-            shaken = mode == CRAWLING ? 100 : 100 + bridge.shake;
+            failedCheck = NONE;
+            shaken = mode == CRAWLING ? 100 : 100 + bridge.rules[SHAKE];
             boolean othersCount = mode == FREE && usual != null;
-            long hundredths = othersCount ? (bridge.lanes - 1) * bridge.share : 0;
+            long hundredths = othersCount ? (bridge.rules[LANES] - 1) * bridge.rules[SHARE] : 0;
             for (int c = 0; c < MAX_CHECKS; c++) {
                 others[GREATEST][c] = 0;
                 others[LEAST][c] = 0;
@@ -848,35 +866,50 @@ public final class RollingLoads {
             }
         }
 
-        void sumUp(int c, Check check, Train train) {
-            extremes.find(check.line, train, sweep);
-            for (int end = GREATEST; end <= LEAST; end++) {
-                totals[end] = (100 * extremes.uppers[end] + others[end][c]) * shaken;
-            }
+        /** Over the check's totalLower. */
+        long totalOf(int c, int end, long upper) {
+            return (100 * upper + others[end][c]) * shaken;
         }
 
-        long lowerOf(Check check) {
-            return check.line.lower * 100 * 100;
-        }
-
-        /** The first check that is not met, from a start on and then round to it again. */
-        int unmetFrom(int start, Bridge bridge, Train train) {
-            for (int i = 0; i < bridge.checkCount; i++) {
-                int c = start + i < bridge.checkCount ? start + i : start + i - bridge.checkCount;
+        int firstUnmet(Bridge bridge, Train train) {
+            for (int c = 0; c < bridge.checkCount; c++) {
                 Check check = bridge.checkAt(c);
-                if (check != null) {
-                    sumUp(c, check, train);
-                    if (!totalsMeet(check)) {
-                        return c;
-                    }
+                if (check != null && !isMet(c, check, train)) {
+                    return c;
                 }
             }
             return NONE;
         }
 
-        private boolean totalsMeet(Check check) {
-            long lower = lowerOf(check);
-            return totals[GREATEST] <= check.high * lower && totals[LEAST] >= check.low * lower;
+        /**
+         * For trains that are tried one after the other: where the one before failed, the next
+         * mostly fails too, and one effect is found much sooner than the greatest of all.
+         */
+        boolean allMet(Bridge bridge, Train train) {
+            return !failsAsBefore(bridge, train) && firstUnmet(bridge, train) == NONE;
+        }
+
+        private boolean failsAsBefore(Bridge bridge, Train train) {
+            Check check = bridge.checkAt(failedCheck);
+            if (check == null || failedWay == NONE) {
+                return false;
+            }
+            long upper = check.line.effectOf(train, failedWay, failedTime);
+            return !check.allows(failedEnd, totalOf(failedCheck, failedEnd, upper));
+        }
+
+        private boolean isMet(int c, Check check, Train train) {
+            extremes.find(check.line, train, sweep);
+            for (int end = GREATEST; end <= LEAST; end++) {
+                if (!check.allows(end, totalOf(c, end, extremes.uppers[end]))) {
+                    failedCheck = c;
+                    failedEnd = end;
+                    failedWay = extremes.ways[end];
+                    failedTime = extremes.times[end];
+                    return false;
+                }
+            }
+            return true;
         }
     }
 

@@ -146,6 +146,9 @@ public final class ChecksTest {
         x.limit(0, 1, 234, 0);
         Due.due("234 is at most 234; 91 is above 90", x.fails(0, 0, 0), 2);
         Due.due("crawling", x.fails(0, 0, 2), NONE);
+        x.limit(0, 0, 90, 0);
+        Due.due("the first of two again", x.fails(0, 0, 0), 0);
+        x.limit(0, 0, 100000, 0);
         x.limit(0, 2, 91, 0);
         Due.due("all met", x.fails(0, 0, 0), NONE);
         x.usual(0);
@@ -167,6 +170,8 @@ public final class ChecksTest {
         x.limit(0, 0, 0, 0);
         Due.due("to nothing of 40", x.posted(0, 0), 2);
         Due.due("to nothing of 25", x.posted(0, 1), 3);
+        x.train(200);
+        Due.due("to nothing of 200", x.posted(0, 2), 0);
         x.limit(0, 0, 702, 0);
         Due.due("all that can be posted", x.posted(0, 0), 300);
         x.limit(0, 0, 701, 0);
@@ -179,7 +184,7 @@ public final class ChecksTest {
         x.limit(0, 0, 234, 0);
         Due.due("with 0", x.posted(0, 0), 2);
         Due.due("bridge 1", x.posted(1, 0), UNKNOWN);
-        Due.due("train 2", x.posted(0, 2), UNKNOWN);
+        Due.due("train 3", x.posted(0, 3), UNKNOWN);
         Due.due("train -1", x.posted(0, NONE), UNKNOWN);
     }
 
@@ -237,6 +242,31 @@ public final class ChecksTest {
         Due.due("two at a time, 40 apart, are 133 and a third", x.spread(0, 0, 0), NONE);
         x.limit(0, 0, 134, 0);
         Due.due("134", x.spread(0, 0, 0), 20);
+        // A support at 10 is lifted by a load at 60 alone, and so it is most at the very last time,
+        // with the heavy axle there and nothing behind it.
+        x.bridge(60, Due.bits(10, 50), 0);
+        x.rule(1, 0, 0);
+        x.train(4);
+        for (int n = 2; n <= 8; n++) {
+            x.axle(1, 20, n < 8 ? 4 : 200);
+        }
+        x.check(1, 0, 0, 100000, -49);
+        Due.due("lifted by 50, however it is spread", x.spread(1, 1, 0), NONE);
+        x.limit(1, 0, 100000, -50);
+        Due.due("which may be", x.spread(1, 1, 0), 0);
+    }
+
+    /** Two checks that fail in turn: each p and each k is held against both. */
+    private static void triedOneAfterTheOther() {
+        RollingLoads x = twoTrains();
+        x.rule(0, 0, 0);
+        x.check(0, 0, 0, 70, 0);
+        x.check(0, 0, 1, 69, 0);
+        Due.due("the second check is met later", x.posted(0, 0), 99);
+        Due.due("the second check wants more room", x.spread(0, 0, 0), 1);
+        x.limit(0, 0, 55, 0);
+        Due.due("the first check is met later", x.posted(0, 0), 79);
+        Due.due("the first check wants more room", x.spread(0, 0, 0), 5);
     }
 
     public static void main(String[] args) {
@@ -250,6 +280,7 @@ public final class ChecksTest {
         postedBeyondAGap();
         spread();
         widestSpread();
+        triedOneAfterTheOther();
         Due.end();
     }
 }

@@ -30,6 +30,9 @@ public final class TrainsTest {
         Due.due("weight 0", x.axle(0, 1, 0), OUTSIDE);
         Due.due("weight 201", x.axle(0, 1, 201), OUTSIDE);
         Due.due("still one", x.axles(0, NONE, 0), 1);
+        x.train(200);
+        Due.due("the least", x.axle(1, 1, 1), 2);
+        Due.due("the most", x.axle(1, 20, 200), 3);
         for (int n = 2; n <= 8; n++) {
             Due.due("axle " + n, x.axle(0, n, 10 * n), n);
         }
@@ -47,7 +50,7 @@ public final class TrainsTest {
         Due.due("what 2", x.axles(0, 0, 2), OUTSIDE);
         Due.due("what -1, no axle", x.axles(0, 9, -1), OUTSIDE);
         Due.due("what 2 of all", x.axles(0, NONE, 2), OUTSIDE);
-        Due.due("UNKNOWN is ahead", x.axles(1, 0, 2), UNKNOWN);
+        Due.due("UNKNOWN is ahead", x.axles(2, 0, 2), UNKNOWN);
     }
 
     private static void effect(RollingLoads x, int kind, int at, int way, int time, long upper, long lower) {
@@ -136,14 +139,19 @@ public final class TrainsTest {
         x.bridge(16, Due.bits(5, 7, 9), Due.bits(8));
         worst(x, 1, 0, 0, 0, 1, 0, 1, NONE, NONE);
         worst(x, 1, 0, 0, 0, 0, 44, 1, 0, 3);
+        // The least sum of two axles of 1 is a half of 1, and that is above 0 as well.
+        x.train(1);
+        x.axle(1, 3, 1);
+        worst(x, 0, 1, 6, 1, 0, 0, 1, NONE, NONE);
+        worst(x, 1, 0, 0, 1, 1, 0, 1, NONE, NONE);
         // One axle alone stands at 5, 6 and 7 too: 0 comes first at 5, and 6 is above it.
         x.train(8);
-        worst(x, 0, 1, 6, 1, 0, 4, 1, 0, 6);
-        worst(x, 1, 0, 0, 1, 1, -4, 1, 0, 8);
+        worst(x, 0, 1, 6, 2, 0, 4, 1, 0, 6);
+        worst(x, 1, 0, 0, 2, 1, -4, 1, 0, 8);
         // A train of which nothing is seen at the support's own end is 0 at a time, not without one.
         x.bridge(4, Due.bits(0, 4), 0);
-        worst(x, 2, 0, 0, 1, 1, 0, 1, 0, 4);
-        worst(x, 2, 0, 1, 1, 1, 0, 1, 0, 0);
+        worst(x, 2, 0, 0, 2, 1, 0, 1, 0, 4);
+        worst(x, 2, 0, 1, 2, 1, 0, 1, 0, 0);
     }
 
     /** Way 1 is told only if it is truly beyond way 0. */

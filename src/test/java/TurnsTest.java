@@ -88,6 +88,10 @@ public final class TurnsTest {
             wear(x, 0, 1, 3, t, o.wear(0, 1, 3, t, 0), o.wear(0, 1, 3, t, 1), o.wear(0, 1, 3, t, 2));
         }
         Due.holds("told either way it wears otherwise", x.wear(0, 1, 3, 0, 0) != x.wear(0, 1, 3, 1, 0));
+        x.traffic(0, 1);
+        Due.due("worn of the one", x.worn(0, 1, 3), o.wear(0, 1, 3, 0, 0));
+        x.traffic(1, 5);
+        Due.due("worn of both", x.worn(0, 1, 3), o.wear(0, 1, 3, 0, 0) + 5 * o.wear(0, 1, 3, 1, 0));
     }
 
     /** Arms of 14 on spans of 1 lift a load to some ten millions, whose third power wraps. */
@@ -137,6 +141,9 @@ public final class TurnsTest {
         Due.due("nothing worn yet", x.worn(0, 1, 5), 0);
         Due.due("0 at first", x.traffic(0, 3), 0);
         Due.due("3 of 25, up and down", x.worn(0, 1, 5), 3 * 2 * 25 * 25 * 25);
+        Due.due("3 before it is 1", x.traffic(0, 1), 3);
+        Due.due("1 of 25, up and down", x.worn(0, 1, 5), 2 * 25 * 25 * 25);
+        Due.due("1 before it is 3", x.traffic(0, 3), 1);
         Due.due("0 of the other", x.traffic(1, 1000), 0);
         Due.due("and 1000 of 50", x.worn(0, 1, 5), 3 * 31250 + 1000 * 250000);
         Due.due("all", x.count(5), 1003);
