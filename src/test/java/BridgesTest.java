@@ -64,6 +64,11 @@ public final class BridgesTest {
         Due.due("OUTSIDE is ahead of FULL", x.bridge(10, 1, 0), OUTSIDE);
         Due.due("the seventh", x.bridge(10, Due.bits(0, 10), 0), FULL);
         Due.due("six", x.count(0), 6);
+        Due.due("the last", x.told(5, 1), 2);
+        Due.due("beyond six", x.told(6, 0), UNKNOWN);
+        Due.due("beyond six: influence", x.influence(6, 0, 0, 0, 0), UNKNOWN);
+        Due.due("beyond six: rule", x.rule(6, 0, 0), UNKNOWN);
+        Due.due("beyond six: road", x.road(0, 1, 1, 6), UNKNOWN);
         Due.due("what was refused left bridge 5", x.told(5, 0), 2);
     }
 

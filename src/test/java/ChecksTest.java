@@ -40,6 +40,11 @@ public final class ChecksTest {
         Due.due("the sixth", x.check(0, 1, 6, 1, 0), FULL);
         Due.due("five", x.told(0, 3), 5);
         Due.due("five of all", x.count(3), 5);
+        Due.due("the last", x.limit(0, 4, 2, 0), 1);
+        Due.due("beyond five", x.limit(0, 5, 2, 0), UNKNOWN);
+        Due.due("beyond five: total", x.total(0, 5, 0, 0, 0, 0), UNKNOWN);
+        Due.due("the first of five", x.fails(0, 0, 0), 2);
+        Due.due("none of them counts without weight", x.posted(0, 0), 2);
     }
 
     private static void limits() {
@@ -119,6 +124,8 @@ public final class ChecksTest {
         total(x, 1, 1, 1, -308, 3);
         // Of train 1, 125 / 3, half counts.
         total(x, 1, 0, 1, -(2 * 280 + 125) * 11, 60);
+        x.usual(NONE);
+        total(x, 1, 0, 1, -308, 3);
     }
 
     private static void totalRefusals() {

@@ -26,6 +26,9 @@ public final class RoadsTest {
         Due.due("OUTSIDE is ahead of FULL", x.road(0, 0, 1, 0), OUTSIDE);
         Due.due("the 25th", x.road(0, 1, 1, 0), FULL);
         Due.due("24", x.count(2), 24);
+        x.train(1);
+        Due.due("over the first", x.route(0, 0, 0, 9, 2), 0);
+        Due.due("over the first that goes there", x.route(0, 0, 5, 9, 2), 5);
     }
 
     private static void route(RollingLoads x, int mode, int from, int to, int... want) {

@@ -16,6 +16,12 @@ public final class TrainsTest {
         Due.due("OUTSIDE is ahead of FULL", x.train(201), OUTSIDE);
         Due.due("the ninth", x.train(1), FULL);
         Due.due("eight", x.count(1), 8);
+        Due.due("beyond eight", x.axles(8, 0, 0), UNKNOWN);
+        Due.due("beyond eight: axle", x.axle(8, 1, 1), UNKNOWN);
+        Due.due("beyond eight: usual", x.usual(8), UNKNOWN);
+        Due.due("beyond eight: traffic", x.traffic(8, 1), UNKNOWN);
+        Due.due("nothing is worn where there is no bridge", x.worn(0, 0, 0), UNKNOWN);
+        Due.due("no traffic", x.count(5), 0);
         Due.due("its one axle", x.axles(0, 0, 0), 1);
         Due.due("one axle", x.axles(7, NONE, 0), 1);
     }
