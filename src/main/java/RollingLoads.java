@@ -256,7 +256,7 @@ public final class RollingLoads {
         Bridge bridge = bridgeAt(b);
         Check check = bridge == null ? null : bridge.checkAt(c);
         Train train = trainAt(t);
-        if (check == null || train == null) {
+        if (bridge == null || check == null || train == null) {
             return UNKNOWN;
         }
         if (!within(mode, FREE, CRAWLING) || !within(end, GREATEST, LEAST) || !within(what, 0, 1)) {
