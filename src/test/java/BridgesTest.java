@@ -392,7 +392,6 @@ public final class BridgesTest {
         }
     }
 
-    /** The conditions of the document, looked at on a bridge whose elimination has to change rows. */
     private static void promise4_aBeamThatHangsBetweenTwoHinges() {
         RollingLoads x = new RollingLoads();
         Due.due("2, 0, 2", x.bridge(20, bits(0, 4, 14, 20), bits(7, 12)), 0);

@@ -1,8 +1,13 @@
 import java.util.Random;
 
-/** Random runs of calls, ordinary and wrong ones, each answer held against the Oracle's. */
+/**
+ * Random runs of calls, ordinary and wrong ones, each answer held against the Oracle's. What a run picks
+ * from is read from the Oracle, so that the object itself gets no more than the 512 calls of the document.
+ */
 public final class OracleTest {
     private static final int RUNS = 150;
+    /** A step makes at most four calls. */
+    private static final int LAST_STEP = 512 - 4;
     private static final int[] WILD = {Integer.MIN_VALUE, -100001, -1003, -2, -1, 0, 1, 61, 100001, Integer.MAX_VALUE};
 
     private final Random random;
@@ -10,6 +15,7 @@ public final class OracleTest {
     private final RollingLoads x = new RollingLoads();
     private final Oracle o = new Oracle();
     private final boolean small;
+    private int called = 0;
 
     private OracleTest(int run) {
         this.run = run;
@@ -30,19 +36,20 @@ public final class OracleTest {
     }
 
     private int pickBridge() {
-        return pick(0, Math.max(0, x.count(0) - 1));
+        return pick(0, Math.max(0, o.count(0) - 1));
     }
 
     private int pickTrain() {
-        return pick(0, Math.max(0, x.count(1) - 1));
+        return pick(0, Math.max(0, o.count(1) - 1));
     }
 
     private int pickAt(int b, int kind) {
-        int last = kind == 0 ? x.told(b, 1) - 1 : x.told(b, 0);
+        int last = kind == 0 ? o.told(b, 1) - 1 : o.told(b, 0);
         return pick(0, Math.max(0, last));
     }
 
     private void due(String name, long got, long want, long... args) {
+        called++;
         if (got != want) {
             StringBuilder call = new StringBuilder("run " + run + ": " + name + "(");
             for (int i = 0; i < args.length; i++) {
@@ -112,7 +119,7 @@ public final class OracleTest {
         int what = pick(0, 2);
         int v = what == 0 ? pick(0, 60) : what == 1 ? pick(1, 4) : pick(0, 100);
         int n = pick(0, 1000);
-        int u = pick(-1, x.count(1) - 1 < 0 ? 0 : x.count(1) - 1);
+        int u = pick(-1, o.count(1) - 1 < 0 ? 0 : o.count(1) - 1);
         int q = pick(0, 5);
         due("rule", x.rule(b, what, v), o.rule(b, what, v), b, what, v);
         due("traffic", x.traffic(t, n), o.traffic(t, n), t, n);
@@ -132,7 +139,7 @@ public final class OracleTest {
         int b = pickBridge();
         int kind = pick(0, 1);
         int at = pickAt(b, kind);
-        int a = pick(0, Math.max(0, x.told(b, 0)));
+        int a = pick(0, Math.max(0, o.told(b, 0)));
         int what = pick(0, 1);
         int of = pick(0, 6);
         due("told", x.told(b, of), o.told(b, of), b, of);
@@ -146,7 +153,7 @@ public final class OracleTest {
         int t = pickTrain();
         int k = pick(-1, 8);
         int way = pick(0, 1);
-        int time = pick(0, Math.max(0, x.told(b, 0) + Math.max(0, x.axles(t, -1, 1))));
+        int time = pick(0, Math.max(0, o.told(b, 0) + Math.max(0, o.axles(t, -1, 1))));
         int what = pick(0, 1);
         int end = pick(0, 1);
         int of = pick(0, 3);
@@ -159,7 +166,7 @@ public final class OracleTest {
     private void askChecks() {
         int b = pickBridge();
         int t = pickTrain();
-        int c = pick(0, Math.max(0, x.told(b, 3) - 1));
+        int c = pick(0, Math.max(0, o.told(b, 3) - 1));
         int mode = pick(0, 2);
         int end = pick(0, 1);
         int what = pick(0, 1);
@@ -207,14 +214,45 @@ public final class OracleTest {
         }
     }
 
+    /** Fills every table, and calls for one more of each. */
+    private void fill() {
+        for (int tries = 0; tries < 100 && o.count(0) < 6; tries++) {
+            bridge();
+        }
+        for (int n = 0; n < 9; n++) {
+            due("train", x.train(10 + n), o.train(10 + n), 10 + n);
+        }
+        for (int n = 0; n < 8; n++) {
+            for (int t = 0; t < 8; t++) {
+                int gap = 1 + random.nextInt(4);
+                due("axle", x.axle(t, gap, 30), o.axle(t, gap, 30), t, gap, 30);
+            }
+        }
+        for (int b = 0; b < 6; b++) {
+            for (int c = 0; c < 6; c++) {
+                int at = random.nextInt(2);
+                due("check", x.check(b, 0, at, 300, -200), o.check(b, 0, at, 300, -200), b, 0, at, 300, -200);
+            }
+        }
+        for (int n = 0; n < 40; n++) {
+            road();
+        }
+        bridge();
+    }
+
     public static void main(String[] args) {
         int runs = args.length > 0 ? Integer.parseInt(args[0]) : RUNS;
         for (int run = 0; run < runs && Due.wrongSoFar() < 20; run++) {
             OracleTest test = new OracleTest(run);
             int calls = test.small ? 110 : 45;
-            for (int i = 0; i < calls; i++) {
+            if (run % 25 == 1) {
+                test.fill();
+                calls = 40;
+            }
+            for (int i = 0; i < calls && test.called <= LAST_STEP; i++) {
                 test.call(i < calls / 2);
             }
+            Due.holds("at most 512 calls", test.called <= 512);
         }
         Due.end();
     }

@@ -93,7 +93,6 @@ public final class TermsTest {
         Due.due(name + ": what both have in common", common(upper, lower), 1);
     }
 
-    /** With and without conditions that have to be put in another order, which turns signs. */
     private static void terms0_fractionsAreInLeastTermsTheLowerAbove0() {
         long[][] bridges = {{24, Due.bits(1, 5, 12, 20), Due.bits(7, 11)},
             {24, Due.bits(0, 6, 18, 24), Due.bits(8, 16)}, {24, Due.bits(4, 20), 0},
@@ -201,6 +200,35 @@ public final class TermsTest {
         Due.due("axle", x.axle(0, 1, 1), FULL);
         Due.due("check", x.check(0, 1, 0, 1, 0), FULL);
         Due.due("road", x.road(0, 1, 1, 0), FULL);
+    }
+
+    private static void terms0_theLastOfEachFullTableAnswers() {
+        RollingLoads x = Made.full();
+        Due.due("bridge 5", x.told(5, 0), 60);
+        Due.due("its last support", x.influence(5, 0, 2, 60, 0), 1);
+        Due.due("its place 60", x.influence(5, 1, 60, 60, 0), 0);
+        Due.due("train 7", x.axles(7, 0, 0), 145);
+        Due.due("its last axle", x.axles(7, 7, 0), 1 + (90 * 7 + 31 * 7) % 120);
+        Due.due("its last axle stands at the end of bridge 5 last",
+                x.effect(5, 0, 2, 7, 0, 60 + x.axles(7, NONE, 1), 0), 1 + (90 * 7 + 31 * 7) % 120);
+        Due.due("check 4 of bridge 5", x.limit(5, 4, 0, 0), 1);
+        for (int c = 0; c < 4; c++) {
+            x.limit(5, c, 100000, -100000);
+        }
+        Due.due("it alone is not met", x.fails(5, 7, 2), 4);
+        Due.due("traffic of train 7", x.traffic(7, 0), 701);
+        Due.due("usual", x.usual(7), 7);
+    }
+
+    private static void terms0_bothQuotientsAreCut() {
+        RollingLoads x = Made.beam(10);
+        x.train(7);
+        x.check(0, 1, 5, 2, -2);
+        x.rule(0, 0, 0);
+        // 7 times 14 hundredths is less than 1, times 28 less than 2; 2 1/2 is more than HIGH.
+        Due.due("weights of POSTED", x.posted(0, 0), 14);
+        // 35 / 2 up and down.
+        Due.due("sizes of WEAR", x.wear(0, 1, 5, 0, 0), 2 * 17 * 17 * 17);
     }
 
     // ---- terms 1: bridges
@@ -359,6 +387,26 @@ public final class TermsTest {
         Due.due("met", x.fails(0, 0, 0), NONE);
         x.limit(0, 0, 100000, -99999);
         Due.due("not by -99999", x.fails(0, 0, 0), 0);
+    }
+
+    /** Arms of 14, one behind the other: at the end a load bears 38416 times on support 0. */
+    private static void terms3_totalsFarAboveTheWidestLimits() {
+        RollingLoads x = new RollingLoads();
+        x.bridge(60, Due.bits(0, 1, 16, 31, 46), Due.bits(15, 30, 45));
+        x.train(200);
+        x.train(100);
+        x.check(0, 0, 0, 100000, -100000);
+        x.rule(0, 0, 60);
+        x.rule(0, 1, 4);
+        x.rule(0, 2, 100);
+        Due.due("posted, of 200", x.posted(0, 0), 0);
+        Due.due("posted, of 100", x.posted(0, 1), 1);
+        x.usual(0);
+        Due.due("total", x.total(0, 0, 0, 0, 0, 0), 200L * 38416 * 4 * 16 / 10);
+        Due.due("least", x.total(0, 0, 0, 0, 1, 0), -200L * 2744 * 4 * 16 / 10);
+        Due.due("not met", x.fails(0, 0, 0), 0);
+        Due.due("not even crawling", x.fails(0, 0, 2), 0);
+        Due.due("not even with 0", x.posted(0, 0), NONE);
     }
 
     private static void terms3_noughtMeetsLimitsOf0() {
