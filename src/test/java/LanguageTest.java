@@ -28,6 +28,12 @@ public final class LanguageTest {
         "why(int, int, int, int) int", "wear(int, int, int, int, int) long", "traffic(int, int) int",
         "worn(int, int, int) long", "count(int) int"};
 
+    /** What the document says ahead of which calls, in its order. */
+    private static final String[] ORDER = {
+        "---- bridges", "bridge", "told", "influence", "rule", "---- trains", "train", "axle", "axles", "effect", "worst",
+        "---- checks", "check", "limit", "usual", "total", "fails", "posted", "spread", "---- roads", "road", "route", "why",
+        "---- turns", "wear", "traffic", "worn", "count"};
+
     private static String signature(Method m) {
         List<String> kinds = new ArrayList<>();
         for (Class<?> kind : m.getParameterTypes()) {
@@ -56,6 +62,19 @@ public final class LanguageTest {
         Constructor<?>[] makers = c.getDeclaredConstructors();
         Due.holds("one public constructor without parameters", makers.length == 1
                 && makers[0].getParameterCount() == 0 && Modifier.isPublic(makers[0].getModifiers()));
+    }
+
+    private static void order(List<String> lines) {
+        Pattern said = Pattern.compile("^    (?:// (---- \\w+)|public (?:int|long) (\\w+)\\(.*)$");
+        List<String> found = new ArrayList<>();
+        for (String line : lines) {
+            Matcher m = said.matcher(line);
+            if (m.matches()) {
+                found.add(m.group(1) == null ? m.group(2) : m.group(1));
+            }
+        }
+        Due.holds("calls in the document's order, with what it says ahead of them: " + found,
+                found.equals(Arrays.asList(ORDER)));
     }
 
     private static void constants() {
@@ -154,6 +173,7 @@ public final class LanguageTest {
         classes();
         words(withoutComments(Files.readString(SOURCE)));
         lengths(Files.readAllLines(SOURCE));
+        order(Files.readAllLines(SOURCE));
         Due.end();
     }
 }
